@@ -1,0 +1,182 @@
+import java.util.List;
+import java.util.Random;
+
+/** Holds the class's answers against those of Reference: runs of calls, and terms told one by one. */
+public final class ReferenceTests {
+    private static final int CALLS = 512;
+    private static final int TOLD_SIZE = 6;
+    private static final int[] EXTREMES = {16, 200, 1000, -1000, Integer.MAX_VALUE, Integer.MIN_VALUE, 1 << 16};
+
+    public static void main(String[] args) {
+        for (int seed = 0; seed < 120; seed++) {
+            mixedRun(seed, CALLS);
+        }
+        // Of calls beyond the 512th nothing is promised, but they must not throw either.
+        for (int seed = 1000; seed < 1005; seed++) {
+            mixedRun(seed, 3 * CALLS);
+        }
+        for (int seed = 2000; seed < 3500; seed++) {
+            questionsAfterRules(seed);
+        }
+        for (int seed = 4000; seed < 4150; seed++) {
+            termsToldOneByOne(seed);
+        }
+        largeMachines();
+        Check.end();
+    }
+
+    /** All calls in any order, some with arguments that are out of range. */
+    private static void mixedRun(int seed, int calls) {
+        Random random = new Random(seed);
+        TreeMachines x = new TreeMachines();
+        Reference want = new Reference();
+        int rulesFirst = random.nextInt(50);
+        for (int i = 0; i < calls; i++) {
+            String name = i < rulesFirst ? "rule" : Call.NAMES[random.nextInt(Call.NAMES.length)];
+            if (name.equals("clear") && random.nextInt(4) != 0) {
+                name = "goal";
+            }
+            compare("run " + seed, x, want, anyCall(name, random, want.nodes()));
+        }
+        compareNodes("run " + seed, x, want);
+    }
+
+    private static Call anyCall(String name, Random random, int nodes) {
+        int machine = number(random, 2);
+        switch (name) {
+            case "rule":
+            case "drop":
+            case "isRule":
+                return new Call(name, machine, number(random, 8), number(random, 4), number(random, 4),
+                        number(random, 4));
+            case "goal":
+                return new Call(name, machine, number(random, 4), random.nextInt(2));
+            case "clear":
+                return new Call(name, machine);
+            case "node":
+                return new Call(name, number(random, 8), number(random, nodes), number(random, nodes));
+            case "part":
+                return new Call(name, number(random, nodes), number(random, 3));
+            case "reached":
+                return new Call(name, machine, number(random, nodes));
+            case "place":
+            case "size":
+                return new Call(name, number(random, nodes));
+            case "terms":
+                return new Call(name, number(random, 16), number(random, 13));
+            case "nodes":
+            case "included":
+                return new Call(name);
+            default:
+                return new Call(name, number(random, 16));
+        }
+    }
+
+    /** Mostly 0 to below end, now and then the numbers just outside or far away. */
+    private static int number(Random random, int end) {
+        switch (random.nextInt(40)) {
+            case 0:
+                return EXTREMES[random.nextInt(EXTREMES.length)];
+            case 1:
+                return end;
+            case 2:
+                return -1;
+            default:
+                return end == 0 ? 0 : random.nextInt(end);
+        }
+    }
+
+    private static void compare(String run, TreeMachines x, Reference want, Call call) {
+        Check.due(run + ": " + call, call.on(x), call.on(want));
+    }
+
+    private static void compareNodes(String run, TreeMachines x, Reference want) {
+        compare(run, x, want, new Call("nodes"));
+        for (int n = 0; n < want.nodes(); n++) {
+            for (int what = 0; what < 3; what++) {
+                compare(run, x, want, new Call("part", n, what));
+            }
+            compare(run, x, want, new Call("size", n));
+            compare(run, x, want, new Call("place", n));
+        }
+    }
+
+    private static void giveRules(Random random, TreeMachines x, Reference want, int rules) {
+        int used = 1 + random.nextInt(255);
+        for (int i = 0; i < rules; i++) {
+            int symbol = random.nextInt(8);
+            if ((used >> symbol & 1) == 1 || i < 4) {
+                compare("rules", x, want, new Call("rule", random.nextInt(2), i < 4 ? random.nextInt(3) : symbol,
+                        random.nextInt(4), random.nextInt(4), random.nextInt(4)));
+            }
+        }
+        for (int machine = 0; machine < 2; machine++) {
+            compare("goals", x, want, new Call("goal", machine, random.nextInt(4), 1));
+        }
+    }
+
+    /** Machines of few to many rules, and then the questions on the sets alone: the least terms may be large here. */
+    private static void questionsAfterRules(int seed) {
+        Random random = new Random(seed);
+        TreeMachines x = new TreeMachines();
+        Reference want = new Reference();
+        giveRules(random, x, want, 8 + random.nextInt(30));
+        for (int place = 0; place < 4; place++) {
+            compare("machines " + seed, x, want, new Call("least", 1 << place));
+            compare("machines " + seed, x, want, new Call("witness", 1 << place));
+        }
+        compare("machines " + seed, x, want, new Call("included"));
+        compare("machines " + seed, x, want, new Call("terms", random.nextInt(16), 12));
+        compare("machines " + seed, x, want, new Call("terms", random.nextInt(16), 1 + random.nextInt(12)));
+        compareNodes("machines " + seed, x, want);
+    }
+
+    /** Answers on small terms, held against a list of all of them. */
+    private static void termsToldOneByOne(int seed) {
+        Random random = new Random(seed);
+        TreeMachines x = new TreeMachines();
+        Reference want = new Reference();
+        giveRules(random, x, want, 6 + random.nextInt(40));
+        List<Reference.Told> all = want.allTerms(TOLD_SIZE);
+        for (int sort = 0; sort < 16; sort++) {
+            int[] counts = new int[TOLD_SIZE + 1];
+            String least = null;
+            for (Reference.Told told : all) {
+                if ((sort >> told.place & 1) == 1) {
+                    counts[told.writing.length()]++;
+                    least = least == null ? told.writing : least;
+                }
+            }
+            for (int size = 1; size <= TOLD_SIZE; size++) {
+                Check.due("told " + seed + ": terms(" + sort + ", " + size + ")", x.terms(sort, size), counts[size]);
+            }
+            if (least != null) {
+                Check.due("told " + seed + ": least(" + sort + ")", x.least(sort), least.length());
+                String writing = x.nodes() + least.length() > 200 ? least : writing(x, x.witness(sort));
+                if (!writing.equals(least)) {
+                    Check.fail("told " + seed + ": witness(" + sort + ") made " + writing + ", due is " + least);
+                }
+            }
+        }
+    }
+
+    private static String writing(TreeMachines x, int n) {
+        return n < 0 ? "" : x.part(n, 0) + writing(x, x.part(n, 1)) + writing(x, x.part(n, 2));
+    }
+
+    /** Many rules, so that many sets of states are reached. */
+    private static void largeMachines() {
+        for (int rules = 60; rules <= 180; rules += 30) {
+            Random random = new Random(rules);
+            TreeMachines x = new TreeMachines();
+            Reference want = new Reference();
+            giveRules(random, x, want, rules);
+            for (int sort = 0; sort < 16; sort += 5) {
+                compare("large " + rules, x, want, new Call("least", sort));
+                compare("large " + rules, x, want, new Call("witness", sort));
+                compare("large " + rules, x, want, new Call("terms", sort, 9));
+            }
+            compareNodes("large " + rules, x, want);
+        }
+    }
+}
