@@ -270,8 +270,8 @@ public final class TreeMachines {
                 for (int right = 1; right <= lastRight; right++) {
                     int row = (symbol * STATES + LOWEST_STATE[left]) * STATES + LOWEST_STATE[right];
                     reachable[cell(symbol, left, right)] = targets[row]
-                            | reachable[cell(symbol, left & left - 1, right)]
-                            | reachable[cell(symbol, left, right & right - 1)];
+                            | reachable[cell(symbol, left & (left - 1), right)]
+                            | reachable[cell(symbol, left, right & (right - 1))];
                 }
             }
         }
@@ -296,7 +296,7 @@ public final class TreeMachines {
 
         /** Written out without smaller functions, because the questions spend most of their steps here. */
         int profileOf(int symbol, int left, int right) {
-            int firstCell = (symbol * SETS + (left & SETS - 1)) * SETS + (right & SETS - 1);
+            int firstCell = (symbol * SETS + (left & (SETS - 1))) * SETS + (right & (SETS - 1));
             int secondCell = (symbol * SETS + (left >> STATES)) * SETS + (right >> STATES);
             return first.reachable[firstCell] | second.reachable[secondCell] << STATES;
         }

@@ -11,6 +11,9 @@ final class Reference {
     private final boolean[][] goals = new boolean[2][4];
     private final List<int[]> nodes = new ArrayList<>();
 
+    /** What leastWritings answered since the rules last changed, or null. */
+    private String[] writings = null;
+
     private boolean inRange(int machine, int symbol, int left, int right, int to) {
         return in(machine, 2) && in(symbol, 8) && in(to, 4)
                 && (CHILDREN[symbol] < 1 || in(left, 4)) && (CHILDREN[symbol] < 2 || in(right, 4));
@@ -33,6 +36,7 @@ final class Reference {
             return false;
         }
         targets(machine, symbol, left, right)[to] = true;
+        writings = null;
         return true;
     }
 
@@ -41,6 +45,7 @@ final class Reference {
             return false;
         }
         targets(machine, symbol, left, right)[to] = false;
+        writings = null;
         return true;
     }
 
@@ -58,6 +63,7 @@ final class Reference {
         }
         rules[machine] = new boolean[8][4][4][4];
         goals[machine] = new boolean[4];
+        writings = null;
         return true;
     }
 
@@ -193,12 +199,12 @@ final class Reference {
 
     /** The writing of the least term of a sort, "" if it is longer than 32, null if there is none. */
     String leastWriting(int sort) {
-        String[] least = leastWritings();
+        writings = writings == null ? leastWritings() : writings;
         String best = null;
         for (int profile = 0; profile < 256; profile++) {
-            if (least[profile] != null && (sort >> placeOf(profile) & 1) == 1
-                    && (best == null || isLesser(least[profile], best))) {
-                best = least[profile];
+            if (writings[profile] != null && (sort >> placeOf(profile) & 1) == 1
+                    && (best == null || isLesser(writings[profile], best))) {
+                best = writings[profile];
             }
         }
         return best;

@@ -18,6 +18,9 @@ public final class ReferenceTests {
         for (int seed = 2000; seed < 3500; seed++) {
             questionsAfterRules(seed);
         }
+        for (int seed = 5000; seed < 8000; seed++) {
+            questionsOnLargeTerms(seed);
+        }
         for (int seed = 4000; seed < 4150; seed++) {
             termsToldOneByOne(seed);
         }
@@ -115,12 +118,53 @@ public final class ReferenceTests {
         }
     }
 
-    /** Machines of few to many rules, and then the questions on the sets alone: the least terms may be large here. */
+    /** Machines of few to many rules, and then the questions on the sets alone. */
     private static void questionsAfterRules(int seed) {
         Random random = new Random(seed);
         TreeMachines x = new TreeMachines();
         Reference want = new Reference();
         giveRules(random, x, want, 8 + random.nextInt(30));
+        compareQuestions(seed, random, x, want);
+    }
+
+    /** Machines that go through their states one by one, so that the least terms are often large, or too large. */
+    private static void questionsOnLargeTerms(int seed) {
+        Random random = new Random(seed);
+        TreeMachines x = new TreeMachines();
+        Reference want = new Reference();
+        for (int machine = 0; machine < 2; machine++) {
+            compare("leaf", x, want, new Call("rule", machine, 0, 0, 0, 0));
+            if (random.nextInt(4) == 0) {
+                compare("leaf", x, want, new Call("rule", machine, 1, 0, 0, random.nextInt(2)));
+            }
+            for (int symbol = 3; symbol < 8; symbol++) {
+                giveSteps(random, x, want, machine, symbol);
+            }
+            compare("goal", x, want, new Call("goal", machine, 1 + random.nextInt(3), 1));
+        }
+        compareQuestions(seed, random, x, want);
+    }
+
+    /** Rules of a symbol that keep each state, go on to the next one, go round, or only start anew behind the last. */
+    private static void giveSteps(Random random, TreeMachines x, Reference want, int machine, int symbol) {
+        int kind = random.nextInt(5);
+        for (int state = 0; state < 4 && kind < 4; state++) {
+            int to = kind == 0 ? state : (state + 1) % 4;
+            if (kind == 1 && state == 3 || kind == 2 && state < 3) {
+                continue;
+            }
+            compare("step", x, want, new Call("rule", machine, symbol, state, state, to));
+            if (random.nextInt(5) == 0) {
+                compare("step", x, want, new Call("rule", machine, symbol, state, random.nextInt(4), to));
+            }
+        }
+        if (random.nextInt(7) == 0) {
+            compare("step", x, want, new Call("rule", machine, symbol, random.nextInt(4), random.nextInt(4),
+                    random.nextInt(4)));
+        }
+    }
+
+    private static void compareQuestions(int seed, Random random, TreeMachines x, Reference want) {
         for (int place = 0; place < 4; place++) {
             compare("machines " + seed, x, want, new Call("least", 1 << place));
             compare("machines " + seed, x, want, new Call("witness", 1 << place));
