@@ -2,8 +2,14 @@
 final class Check {
     private static final int MOST_PRINTED = 40;
     private static int wrong = 0;
+    private static String sentence = "";
 
     private Check() {
+    }
+
+    /** What follows tests these words of the document, which stand under this heading. */
+    static void sentence(String heading, String words) {
+        sentence = heading + ", '" + words + "': ";
     }
 
     static void due(String call, long got, long want) {
@@ -18,10 +24,16 @@ final class Check {
         }
     }
 
+    static void due(String call, String got, String want) {
+        if (!got.equals(want)) {
+            fail(call + " made " + got + ", due is " + want);
+        }
+    }
+
     static void fail(String what) {
         wrong++;
         if (wrong <= MOST_PRINTED) {
-            System.out.println(what);
+            System.out.println(sentence + what);
         }
     }
 

@@ -32,13 +32,6 @@ public final class PromiseTests {
         Check.due("1: nodes()", x.nodes(), 0);
         Check.due("1: part(0, 0)", x.part(0, 0), -2);
         Check.due("1: goal(0, 0, false)", x.goal(0, 0, false), false);
-        for (int symbol = 0; symbol < 8; symbol++) {
-            for (int i = 0; i < 128; i++) {
-                int machine = i >> 6;
-                boolean there = x.isRule(machine, symbol, i >> 4 & 3, i >> 2 & 3, i & 3);
-                Check.due("1: isRule of symbol " + symbol + ", " + i, there, false);
-            }
-        }
         for (int sort = 0; sort < 16; sort++) {
             Check.due("1: least(" + sort + ")", x.least(sort), sort & 1);
         }
@@ -538,14 +531,7 @@ public final class PromiseTests {
     }
 
     private static void dueWriting(String call, TreeMachines x, int n, String want) {
-        String got = writing(x, n);
-        if (!got.equals(want)) {
-            Check.fail(call + " made " + got + ", due is " + want);
-        }
-    }
-
-    private static String writing(TreeMachines x, int n) {
-        return n < 0 ? "" : x.part(n, 0) + writing(x, x.part(n, 1)) + writing(x, x.part(n, 2));
+        Check.due(call, Given.writing(x, n), want);
     }
 
     /** Terms of the same size: the lesser symbol where the writings first differ decides. */

@@ -3,23 +3,22 @@ import java.util.Random;
 
 /** Holds the class's answers against those of Reference: runs of calls, and terms told one by one. */
 public final class ReferenceTests {
-    private static final int CALLS = 512;
     private static final int TOLD_SIZE = 6;
     private static final int[] EXTREMES = {16, 200, 1000, -1000, Integer.MAX_VALUE, Integer.MIN_VALUE, 1 << 16};
 
     public static void main(String[] args) {
         for (int seed = 0; seed < 120; seed++) {
-            mixedRun(seed, CALLS);
+            mixedRun(seed, Run.MOST_CALLS);
         }
         // Of calls beyond the 512th nothing is promised, but they must not throw either.
         for (int seed = 1000; seed < 1005; seed++) {
-            mixedRun(seed, 3 * CALLS);
+            mixedRun(seed, 3 * Run.MOST_CALLS);
         }
         for (int seed = 2000; seed < 3500; seed++) {
-            questionsAfterRules(seed);
+            askAfterRules(seed);
         }
         for (int seed = 5000; seed < 8000; seed++) {
-            questionsOnLargeTerms(seed);
+            askOnLargeTerms(seed);
         }
         for (int seed = 4000; seed < 4150; seed++) {
             termsToldOneByOne(seed);
@@ -31,17 +30,15 @@ public final class ReferenceTests {
     /** All calls in any order, some with arguments that are out of range. */
     private static void mixedRun(int seed, int calls) {
         Random random = new Random(seed);
-        TreeMachines x = new TreeMachines();
-        Reference want = new Reference();
+        Run run = new Run("run " + seed);
         int rulesFirst = random.nextInt(50);
         for (int i = 0; i < calls; i++) {
             String name = i < rulesFirst ? "rule" : Call.NAMES[random.nextInt(Call.NAMES.length)];
             if (name.equals("clear") && random.nextInt(4) != 0) {
                 name = "goal";
             }
-            compare("run " + seed, x, want, anyCall(name, random, want.nodes()));
+            run.call(anyCall(name, random, run.reference().nodes()));
         }
-        compareNodes("run " + seed, x, want);
     }
 
     private static Call anyCall(String name, Random random, int nodes) {
@@ -89,99 +86,80 @@ public final class ReferenceTests {
         }
     }
 
-    private static void compare(String run, TreeMachines x, Reference want, Call call) {
-        Check.due(run + ": " + call, call.on(x), call.on(want));
-    }
-
-    private static void compareNodes(String run, TreeMachines x, Reference want) {
-        compare(run, x, want, new Call("nodes"));
-        for (int n = 0; n < want.nodes(); n++) {
-            for (int what = 0; what < 3; what++) {
-                compare(run, x, want, new Call("part", n, what));
-            }
-            compare(run, x, want, new Call("size", n));
-            compare(run, x, want, new Call("place", n));
-        }
-    }
-
-    private static void giveRules(Random random, TreeMachines x, Reference want, int rules) {
+    private static void giveRules(Random random, Run run, int rules) {
         int used = 1 + random.nextInt(255);
         for (int i = 0; i < rules; i++) {
             int symbol = random.nextInt(8);
             if ((used >> symbol & 1) == 1 || i < 4) {
-                compare("rules", x, want, new Call("rule", random.nextInt(2), i < 4 ? random.nextInt(3) : symbol,
-                        random.nextInt(4), random.nextInt(4), random.nextInt(4)));
+                run.call("rule", random.nextInt(2), i < 4 ? random.nextInt(3) : symbol, random.nextInt(4),
+                        random.nextInt(4), random.nextInt(4));
             }
         }
         for (int machine = 0; machine < 2; machine++) {
-            compare("goals", x, want, new Call("goal", machine, random.nextInt(4), 1));
+            run.call("goal", machine, random.nextInt(4), 1);
         }
     }
 
     /** Machines of few to many rules, and then the questions on the sets alone. */
-    private static void questionsAfterRules(int seed) {
+    private static void askAfterRules(int seed) {
         Random random = new Random(seed);
-        TreeMachines x = new TreeMachines();
-        Reference want = new Reference();
-        giveRules(random, x, want, 8 + random.nextInt(30));
-        compareQuestions(seed, random, x, want);
+        Run run = new Run("machines " + seed);
+        giveRules(random, run, 8 + random.nextInt(30));
+        askQuestions(random, run);
     }
 
     /** Machines that go through their states one by one, so that the least terms are often large, or too large. */
-    private static void questionsOnLargeTerms(int seed) {
+    private static void askOnLargeTerms(int seed) {
         Random random = new Random(seed);
-        TreeMachines x = new TreeMachines();
-        Reference want = new Reference();
+        Run run = new Run("machines " + seed);
         for (int machine = 0; machine < 2; machine++) {
-            compare("leaf", x, want, new Call("rule", machine, 0, 0, 0, 0));
+            run.call("rule", machine, 0, 0, 0, 0);
             if (random.nextInt(4) == 0) {
-                compare("leaf", x, want, new Call("rule", machine, 1, 0, 0, random.nextInt(2)));
+                run.call("rule", machine, 1, 0, 0, random.nextInt(2));
             }
             for (int symbol = 3; symbol < 8; symbol++) {
-                giveSteps(random, x, want, machine, symbol);
+                giveSteps(random, run, machine, symbol);
             }
-            compare("goal", x, want, new Call("goal", machine, 1 + random.nextInt(3), 1));
+            run.call("goal", machine, 1 + random.nextInt(3), 1);
         }
-        compareQuestions(seed, random, x, want);
+        askQuestions(random, run);
     }
 
     /** Rules of a symbol that keep each state, go on to the next one, go round, or only start anew behind the last. */
-    private static void giveSteps(Random random, TreeMachines x, Reference want, int machine, int symbol) {
+    private static void giveSteps(Random random, Run run, int machine, int symbol) {
         int kind = random.nextInt(5);
         for (int state = 0; state < 4 && kind < 4; state++) {
             int to = kind == 0 ? state : (state + 1) % 4;
             if (kind == 1 && state == 3 || kind == 2 && state < 3) {
                 continue;
             }
-            compare("step", x, want, new Call("rule", machine, symbol, state, state, to));
+            run.call("rule", machine, symbol, state, state, to);
             if (random.nextInt(5) == 0) {
-                compare("step", x, want, new Call("rule", machine, symbol, state, random.nextInt(4), to));
+                run.call("rule", machine, symbol, state, random.nextInt(4), to);
             }
         }
         if (random.nextInt(7) == 0) {
-            compare("step", x, want, new Call("rule", machine, symbol, random.nextInt(4), random.nextInt(4),
-                    random.nextInt(4)));
+            run.call("rule", machine, symbol, random.nextInt(4), random.nextInt(4), random.nextInt(4));
         }
     }
 
-    private static void compareQuestions(int seed, Random random, TreeMachines x, Reference want) {
+    private static void askQuestions(Random random, Run run) {
         for (int place = 0; place < 4; place++) {
-            compare("machines " + seed, x, want, new Call("least", 1 << place));
-            compare("machines " + seed, x, want, new Call("witness", 1 << place));
+            run.call("least", 1 << place);
+            run.call("witness", 1 << place);
         }
-        compare("machines " + seed, x, want, new Call("included"));
-        compare("machines " + seed, x, want, new Call("terms", random.nextInt(16), 12));
-        compare("machines " + seed, x, want, new Call("terms", random.nextInt(16), 1 + random.nextInt(12)));
-        compareNodes("machines " + seed, x, want);
+        run.call("included");
+        run.call("terms", random.nextInt(16), 12);
+        run.call("terms", random.nextInt(16), 1 + random.nextInt(12));
+        run.compareNodes();
     }
 
     /** Answers on small terms, held against a list of all of them. */
     private static void termsToldOneByOne(int seed) {
         Random random = new Random(seed);
-        TreeMachines x = new TreeMachines();
-        Reference want = new Reference();
-        giveRules(random, x, want, 6 + random.nextInt(40));
-        List<Reference.Told> all = want.allTerms(TOLD_SIZE);
+        Run run = new Run("told " + seed);
+        giveRules(random, run, 6 + random.nextInt(40));
+        List<Reference.Told> all = run.reference().allTerms(TOLD_SIZE);
         for (int sort = 0; sort < 16; sort++) {
             int[] counts = new int[TOLD_SIZE + 1];
             String least = null;
@@ -192,35 +170,27 @@ public final class ReferenceTests {
                 }
             }
             for (int size = 1; size <= TOLD_SIZE; size++) {
-                Check.due("told " + seed + ": terms(" + sort + ", " + size + ")", x.terms(sort, size), counts[size]);
+                run.answer(counts[size], "terms", sort, size);
             }
             if (least != null) {
-                Check.due("told " + seed + ": least(" + sort + ")", x.least(sort), least.length());
-                String writing = x.nodes() + least.length() > 200 ? least : writing(x, x.witness(sort));
-                if (!writing.equals(least)) {
-                    Check.fail("told " + seed + ": witness(" + sort + ") made " + writing + ", due is " + least);
-                }
+                run.answer(least.length(), "least", sort);
+                run.answerWitness(sort, least);
             }
         }
-    }
-
-    private static String writing(TreeMachines x, int n) {
-        return n < 0 ? "" : x.part(n, 0) + writing(x, x.part(n, 1)) + writing(x, x.part(n, 2));
     }
 
     /** Many rules, so that many sets of states are reached. */
     private static void largeMachines() {
         for (int rules = 60; rules <= 180; rules += 30) {
             Random random = new Random(rules);
-            TreeMachines x = new TreeMachines();
-            Reference want = new Reference();
-            giveRules(random, x, want, rules);
+            Run run = new Run("large " + rules);
+            giveRules(random, run, rules);
             for (int sort = 0; sort < 16; sort += 5) {
-                compare("large " + rules, x, want, new Call("least", sort));
-                compare("large " + rules, x, want, new Call("witness", sort));
-                compare("large " + rules, x, want, new Call("terms", sort, 9));
+                run.call("least", sort);
+                run.call("witness", sort);
+                run.call("terms", sort, 9);
             }
-            compareNodes("large " + rules, x, want);
+            run.compareNodes();
         }
     }
 }
