@@ -14,6 +14,7 @@ public final class MachineSentenceTests {
         ruleToWrongState();
         ruleFromWrongState();
         dropIsNotThereAnyMore();
+        dropIsSeenByAll();
         dropWasThereBefore();
         dropOutOfRange();
         isRuleTellsWhatIsThere();
@@ -23,6 +24,7 @@ public final class MachineSentenceTests {
         goalOfWrongMachine();
         goalOfWrongState();
         clearTakesAllRules();
+        clearIsSeenByAll();
         clearTakesAllGoals();
         clearOfAnEmptyMachine();
         clearOfWrongMachine();
@@ -197,6 +199,39 @@ public final class MachineSentenceTests {
                 }
             }
         }
+    }
+
+    private static void dropIsSeenByAll() {
+        Check.sentence("3", "A rule of the machine is not there any more, and all questions see it");
+        int[][] rules = {{3, 1, 0, 2}, {7, 0, 2, 3}, {0, 0, 0, 0}, {1, 0, 0, 1}};
+        for (int machine = 0; machine < 2; machine++) {
+            for (int[] dropped : rules) {
+                TreeMachines x = new TreeMachines();
+                Given.acceptAll(x, 1 - machine);
+                for (int[] r : rules) {
+                    Given.addRule(x, machine, r);
+                }
+                x.goal(machine, 3, true);
+                Check.due("the term that is accepted", Given.writing(x, x.witness(8)), "7031");
+                dueAlone(x, machine, true);
+                Given.dropRule(x, machine, dropped);
+                dueAlone(x, machine, false);
+                Given.addRule(x, machine, dropped);
+                dueAlone(x, machine, true);
+            }
+        }
+    }
+
+    /** Whether the term of node 3, of size 4, is accepted by the machine beside the one that accepts all. */
+    private static void dueAlone(TreeMachines x, int machine, boolean accepted) {
+        Check.due("reached(" + machine + ", 3)", x.reached(machine, 3), accepted ? 8 : 0);
+        Check.due("place(3)", x.place(3), accepted ? 3 : 1 + machine);
+        Check.due("least(8)", x.least(8), accepted ? 4 : 0);
+        Check.due("terms(8, 4)", x.terms(8, 4), accepted ? 1 : 0);
+        Check.due("terms(6, 4)", x.terms(6, 4), accepted ? 185 : 186);
+        Check.due("included()", x.included(), machine == 0);
+        int next = x.nodes();
+        Check.due("witness(8)", x.witness(8), accepted ? next + 3 : -2);
     }
 
     private static void dropWasThereBefore() {
@@ -393,6 +428,31 @@ public final class MachineSentenceTests {
             Check.due("the node stays", x.nodes(), 1);
             x.rule(machine, 0, 0, 0, 2);
             Check.due("a new rule stands alone", x.reached(machine, 0), 4);
+        }
+    }
+
+    private static void clearIsSeenByAll() {
+        Check.sentence("6", "All rules .. of the machine are taken away, and all questions see it");
+        int[][] rules = {{3, 1, 0, 2}, {7, 0, 2, 3}, {0, 0, 0, 0}, {1, 0, 0, 1}};
+        for (int machine = 0; machine < 2; machine++) {
+            TreeMachines x = new TreeMachines();
+            Given.acceptAll(x, 1 - machine);
+            for (int[] r : rules) {
+                Given.addRule(x, machine, r);
+            }
+            x.goal(machine, 3, true);
+            x.witness(8);
+            dueAlone(x, machine, true);
+            x.clear(machine);
+            dueAlone(x, machine, false);
+            // Only with its goal back would rules that are still there be seen.
+            x.goal(machine, 3, true);
+            dueAlone(x, machine, false);
+            for (int[] r : rules) {
+                dueAlone(x, machine, false);
+                Given.addRule(x, machine, r);
+            }
+            dueAlone(x, machine, true);
         }
     }
 

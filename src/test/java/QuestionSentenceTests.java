@@ -10,6 +10,8 @@ public final class QuestionSentenceTests {
         includedWhereLargeTermsAreMissing();
         leastFrom1To32();
         leastOfMore();
+        leastOfMoreByOneChild();
+        leastNeedsBothChildren();
         leastWhereThereIsNone();
         leastOfWrongSort();
         witnessMadeFromTheLast();
@@ -20,6 +22,7 @@ public final class QuestionSentenceTests {
         witnessFor200Nodes();
         witnessFirstThatHolds();
         termsOfEachSize();
+        termsAfterChanges();
         termsCountedOnce();
         termsNeverMoreThanAnInt();
         termsOfWrongSort();
@@ -149,6 +152,55 @@ public final class QuestionSentenceTests {
         }
     }
 
+    private static void leastOfMoreByOneChild() {
+        Check.sentence("14", "33 if it is more, and one child alone is so large");
+        for (int symbol = 3; symbol < 8; symbol++) {
+            for (int large = 0; large < (symbol < 5 ? 1 : 2); large++) {
+                // Place 11 of this walk has a term of size 4095; nothing but the new rule leads to 3 in machine 1.
+                TreeMachines x = new Walk(Walk.KINDS - 1).upTo(15);
+                x.drop(1, 5, 2, 2, 3);
+                Check.due("least(8) of a walk that is cut", x.least(8), 0);
+                boolean left = large == 0;
+                x.rule(0, symbol, left ? 3 : 0, left ? 0 : 3, 3);
+                Check.due("least(8) by machine 0 alone", x.least(8), 0);
+                x.rule(1, symbol, left ? 2 : 0, left ? 0 : 2, 3);
+                Check.due("least(8) of symbol " + symbol + ", large child " + large, x.least(8), 33);
+                Check.due("witness(8)", x.witness(8), -3);
+                Check.due("terms(8, 12)", x.terms(8, 12), 0);
+            }
+        }
+    }
+
+    private static void leastNeedsBothChildren() {
+        Check.sentence("14", "0 if there is none, though a large term would fit as one of two children");
+        // A walk with its states the other way round: nothing reaches 0 in machine 1 but by the last rule.
+        TreeMachines x = new TreeMachines();
+        for (int i = 0; i < 3; i++) {
+            x.rule(0, 6, 3 - i, 3 - i, 2 - i);
+            for (int j = 0; j < 4; j++) {
+                x.rule(1, 6, j, j, j);
+            }
+        }
+        x.rule(0, 0, 0, 0, 3);
+        x.rule(1, 0, 0, 0, 3);
+        x.rule(0, 5, 0, 0, 3);
+        x.rule(1, 5, 3, 3, 2);
+        x.rule(1, 5, 2, 2, 1);
+        x.goal(0, 0, true);
+        x.goal(1, 1, true);
+        Check.due("least(8) of the large term", x.least(8), 33);
+        x.goal(1, 1, false);
+        x.goal(1, 0, true);
+        for (int symbol = 5; symbol < 8; symbol++) {
+            x.rule(1, symbol, 1, 0, 0);
+            Check.due("least(10) where symbol " + symbol + " has no right child", x.least(10), 0);
+            x.drop(1, symbol, 1, 0, 0);
+            x.rule(1, symbol, 0, 1, 0);
+            Check.due("least(10) where symbol " + symbol + " has no left child", x.least(10), 0);
+            x.drop(1, symbol, 0, 1, 0);
+        }
+    }
+
     private static void leastWhereThereIsNone() {
         Check.sentence("14", "0 if there is none");
         TreeMachines x = new TreeMachines();
@@ -182,21 +234,27 @@ public final class QuestionSentenceTests {
     private static void witnessMadeFromTheLast() {
         Check.sentence("15", "one new node for each symbol of its writing, beginning with the last one of the"
                 + " writing, so that the term itself is made last: its number");
-        for (int size = 1; size <= 32; size++) {
-            TreeMachines x = Walk.objectOfSize(size);
-            String writing = Walk.writingOfSize(size);
-            x.node(2, 0, 0);
-            Check.due("witness(8) of size " + size, x.witness(8), size);
-            Check.due("nodes()", x.nodes(), size + 1);
-            for (int i = 0; i < size; i++) {
-                Check.due("symbol " + i + " from the end of " + writing, x.part(1 + i, 0),
-                        writing.charAt(size - 1 - i) - '0');
+        for (int kind = 0; kind < Walk.KINDS; kind++) {
+            Walk walk = new Walk(kind);
+            for (int place = 0; place < Walk.PLACES && walk.sizeAt(place) <= 32; place++) {
+                dueMadeFromTheLast(walk.upTo(place), walk.writingAt(place));
             }
-            Check.due("witness(8) of size " + size, Given.writing(x, size), writing);
-            Check.due("size of the witness", x.size(size), size);
-            Check.due("place of the witness", x.place(size), 3);
-            Check.due("the node before is as it was", x.part(0, 0), 2);
         }
+    }
+
+    private static void dueMadeFromTheLast(TreeMachines x, String writing) {
+        int size = writing.length();
+        x.node(2, 0, 0);
+        Check.due("witness(8), due is " + writing, x.witness(8), size);
+        Check.due("nodes()", x.nodes(), size + 1);
+        for (int i = 0; i < size; i++) {
+            Check.due("symbol " + i + " from the end of " + writing, x.part(1 + i, 0),
+                    writing.charAt(size - 1 - i) - '0');
+        }
+        Check.due("witness(8)", Given.writing(x, size), writing);
+        Check.due("size of the witness", x.size(size), size);
+        Check.due("place of the witness", x.place(size), 3);
+        Check.due("the node before is as it was", x.part(0, 0), 2);
     }
 
     private static void witnessSharesNothing() {
@@ -323,6 +381,27 @@ public final class QuestionSentenceTests {
         }
     }
 
+    private static void termsAfterChanges() {
+        Check.sentence("16", "How many terms of the sort have the size n, whatever was asked before");
+        TreeMachines x = new TreeMachines();
+        x.goal(0, 0, true);
+        x.rule(0, 2, 0, 0, 0);
+        Check.due("terms(4, 12) of a leaf", x.terms(4, 12), 0);
+        x.rule(0, 3, 0, 0, 0);
+        Check.due("terms(4, 2) of chains of 3", x.terms(4, 2), 1);
+        Check.due("terms(4, 12) of chains of 3", x.terms(4, 12), 1);
+        x.rule(0, 4, 0, 0, 0);
+        Check.due("terms(4, 3) of chains of 3 and 4", x.terms(4, 3), 4);
+        x.drop(0, 3, 0, 0, 0);
+        Check.due("terms(4, 12) of chains of 4", x.terms(4, 12), 1);
+        Check.due("terms(4, 3) of chains of 4", x.terms(4, 3), 1);
+        x.clear(0);
+        x.goal(0, 0, true);
+        Check.due("terms(4, 1) after clear", x.terms(4, 1), 0);
+        Check.due("terms(4, 12) after clear", x.terms(4, 12), 0);
+        Check.due("terms(15, 12) after clear", x.terms(15, 12), 710383812);
+    }
+
     private static void termsCountedOnce() {
         Check.sentence("16", "How many terms, though they reach many goals in many ways");
         TreeMachines x = Given.full(1);
@@ -332,6 +411,15 @@ public final class QuestionSentenceTests {
         for (int n = 1; n < NUMBERS_OF_ALL.length; n++) {
             Check.due("terms(2, " + n + ")", x.terms(2, n), NUMBERS_OF_ALL[n]);
             Check.due("terms(13, " + n + ")", x.terms(13, n), 0);
+        }
+        TreeMachines both = Given.full(0);
+        for (int[] r : Given.allRules()) {
+            Given.addRule(both, 1, r);
+        }
+        both.goal(0, 0, true);
+        both.goal(1, 3, true);
+        for (int n = 1; n < NUMBERS_OF_ALL.length; n++) {
+            Check.due("terms(8, " + n + ") of all rules", both.terms(8, n), NUMBERS_OF_ALL[n]);
         }
     }
 

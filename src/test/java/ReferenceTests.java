@@ -20,6 +20,9 @@ public final class ReferenceTests {
         for (int seed = 5000; seed < 8000; seed++) {
             askOnLargeTerms(seed);
         }
+        for (int seed = 9000; seed < 10500; seed++) {
+            askAfterChanges(seed);
+        }
         for (int seed = 4000; seed < 4150; seed++) {
             termsToldOneByOne(seed);
         }
@@ -104,6 +107,21 @@ public final class ReferenceTests {
     private static void askAfterRules(int seed) {
         Random random = new Random(seed);
         Run run = new Run("machines " + seed);
+        giveRules(random, run, 8 + random.nextInt(30));
+        askQuestions(random, run);
+    }
+
+    /** What was worked out for other rules before must not be seen any more. */
+    private static void askAfterChanges(int seed) {
+        Random random = new Random(seed);
+        Run run = new Run("changed machines " + seed);
+        giveRules(random, run, 10 + random.nextInt(30));
+        run.call("least", 14);
+        run.call("terms", 15, 12);
+        run.call("clear", 0);
+        if (random.nextBoolean()) {
+            run.call("clear", 1);
+        }
         giveRules(random, run, 8 + random.nextInt(30));
         askQuestions(random, run);
     }

@@ -17,6 +17,7 @@ public final class TermsSentenceTests {
         leftTakenAsZero();
         rightTakenAsZero();
         reachesByLeftAndRight();
+        reachesByAnyOfManyStates();
         reachesIfItHasAChild();
         acceptedByOneGoal();
         reachesNoneOrMany();
@@ -253,6 +254,32 @@ public final class TermsSentenceTests {
                 }
                 x.drop(1, symbol, i >> 2, i & 3, i & 3);
             }
+        }
+    }
+
+    private static void reachesByAnyOfManyStates() {
+        Check.sentence(TERMS, "whose left is reached .. and whose right is reached, where the children reach many");
+        for (int sets = 0; sets < 256; sets++) {
+            TreeMachines x = new TreeMachines();
+            for (int i = 0; i < 8; i++) {
+                if ((sets >> i & 1) == 1) {
+                    x.rule(0, i >> 2, 0, 0, i & 3);
+                }
+            }
+            x.node(0, 0, 0);
+            x.node(1, 0, 0);
+            x.node(6, 0, 1);
+            for (int i = 0; i < 16; i++) {
+                x.rule(0, 6, i >> 2, i & 3, i & 3);
+                boolean fits = (sets >> (i >> 2) & 1) == 1 && (sets >> 4 + (i & 3) & 1) == 1;
+                Check.due("sets " + sets + ", rule " + i, x.reached(0, 2), fits ? 1 << (i & 3) : 0);
+                x.drop(0, 6, i >> 2, i & 3, i & 3);
+            }
+            x.rule(0, 6, 0, 3, 1);
+            x.rule(0, 6, 2, 1, 2);
+            boolean one = (sets & 1) == 1 && (sets >> 7 & 1) == 1;
+            boolean other = (sets >> 2 & 1) == 1 && (sets >> 5 & 1) == 1;
+            Check.due("sets " + sets + ", two rules", x.reached(0, 2), (one ? 2 : 0) + (other ? 4 : 0));
         }
     }
 

@@ -17,6 +17,11 @@ final class Walk {
         this.kind = kind;
     }
 
+    /** Where all terms of the walk begin. */
+    private int leaf() {
+        return kind % 3;
+    }
+
     private int stepSymbol(int state) {
         return (kind >> state & 1) == 1 ? 6 : 3;
     }
@@ -28,8 +33,8 @@ final class Walk {
     /** A new object whose machines both accept the term at this place of the walk alone: at most 27 calls. */
     TreeMachines upTo(int place) {
         TreeMachines x = new TreeMachines();
-        x.rule(0, 0, 0, 0, 0);
-        x.rule(1, 0, 0, 0, 0);
+        x.rule(0, leaf(), 0, 0, 0);
+        x.rule(1, leaf(), 0, 0, 0);
         for (int i = 0; i < 3; i++) {
             x.rule(0, stepSymbol(i), i, i, i + 1);
             x.rule(0, turnSymbol(i), 3, 3, 0);
@@ -49,7 +54,7 @@ final class Walk {
      */
     TreeMachines lacking(int place) {
         TreeMachines x = new TreeMachines();
-        x.rule(0, 0, 0, 0, 0);
+        x.rule(0, leaf(), 0, 0, 0);
         for (int i = 0; i < 3; i++) {
             x.rule(0, stepSymbol(i), i, i, i + 1);
             x.rule(0, turnSymbol(i), 3, 3, 0);
@@ -68,7 +73,7 @@ final class Walk {
 
     /** Where machine 1 goes on, if it has a rule for everything. */
     private int nextState(int symbol, int left, int right) {
-        if (symbol == 0) {
+        if (symbol == leaf()) {
             return 0;
         }
         boolean same = Given.childrenOf(symbol) == 1 || Given.childrenOf(symbol) == 2 && left == right;
@@ -94,7 +99,7 @@ final class Walk {
     }
 
     String writingAt(int place) {
-        String writing = "0";
+        String writing = "" + leaf();
         for (int i = 1; i <= place; i++) {
             int symbol = symbolBefore(i);
             writing = symbol + writing + (Given.childrenOf(symbol) == 2 ? writing : "");
