@@ -23,6 +23,13 @@ public final class ReferenceTests {
         for (int seed = 9000; seed < 10500; seed++) {
             askAfterChanges(seed);
         }
+        for (int seed = 11000; seed < 11100; seed++) {
+            witnessesBetweenChanges(seed);
+        }
+        // Runs where an order of writings that was not worked out wholly anew was seen to go wrong.
+        for (int seed : new int[] {38189, 429835, 200221967, 200521071, 300298766, 500496746}) {
+            witnessesBetweenChanges(seed);
+        }
         for (int seed = 4000; seed < 4150; seed++) {
             termsToldOneByOne(seed);
         }
@@ -124,6 +131,33 @@ public final class ReferenceTests {
         }
         giveRules(random, run, 8 + random.nextInt(30));
         askQuestions(random, run);
+    }
+
+    /** Rules come and go; after each round the least term of each place is made. */
+    private static void witnessesBetweenChanges(int seed) {
+        Random random = new Random(seed);
+        Run run = new Run("changing machines " + seed);
+        for (int round = 0; round < 6; round++) {
+            int changes = 4 + random.nextInt(25);
+            for (int i = 0; i < changes; i++) {
+                int machine = random.nextInt(2);
+                int symbol = random.nextInt(i < 3 ? 3 : 8);
+                int left = random.nextInt(4);
+                int right = random.nextInt(4);
+                int to = random.nextInt(4);
+                boolean drop = round > 0 && random.nextInt(3) == 0;
+                run.call(drop ? "drop" : "rule", machine, symbol, left, right, to);
+            }
+            int state = random.nextInt(4);
+            run.call("goal", random.nextInt(2), state, random.nextInt(3) > 0 ? 1 : 0);
+            for (int place = 0; place < 4; place++) {
+                int before = run.reference().nodes();
+                run.call("witness", 1 << place);
+                for (int n = before; n < run.reference().nodes(); n++) {
+                    run.call("part", n, 0);
+                }
+            }
+        }
     }
 
     /** Machines that go through their states one by one, so that the least terms are often large, or too large. */
