@@ -12,6 +12,7 @@ public final class QuestionSentenceTests {
         leastOfMore();
         leastOfMoreByOneChild();
         leastNeedsBothChildren();
+        leastWhereEveryTermReachesSomething();
         leastWhereThereIsNone();
         leastOfWrongSort();
         witnessMadeFromTheLast();
@@ -199,6 +200,38 @@ public final class QuestionSentenceTests {
             Check.due("least(10) where symbol " + symbol + " has no left child", x.least(10), 0);
             x.drop(1, symbol, 0, 1, 0);
         }
+    }
+
+    private static void leastWhereEveryTermReachesSomething() {
+        Check.sentence("14", "0 if there is none, though large terms have to be looked at to know");
+        // Three states of each machine are a walk, the fourth is for all that leaves it: no term reaches nothing.
+        TreeMachines x = new TreeMachines();
+        for (int[] r : Given.allRules()) {
+            boolean same = r[1] == r[2] && r[1] < 3;
+            boolean step = r[0] == 6 && same;
+            boolean turn = r[0] == 5 && same;
+            int first = r[0] == 0 || turn && r[1] == 2 ? 0 : step && r[1] < 2 ? r[1] + 1 : 3;
+            int second = r[0] == 0 ? 0 : step ? r[1] : turn ? r[1] + 1 : 3;
+            if (r[3] == first) {
+                Given.addRule(x, 0, r);
+            }
+            if (r[3] == second) {
+                Given.addRule(x, 1, r);
+            }
+        }
+        x.goal(0, 2, true);
+        x.goal(1, 2, true);
+        Check.due("least(8) at the end of the walk", x.least(8), 33);
+        for (int i = 0; i < 8; i++) {
+            x.goal(i >> 2, i & 3, true);
+        }
+        for (int sort = 0; sort < 16; sort++) {
+            Check.due("least(" + sort + ") where both accept all", x.least(sort), sort >> 3);
+            Check.due("terms(" + sort + ", 3) where both accept all", x.terms(sort, 3), 39 * (sort >> 3));
+        }
+        Check.due("included()", x.included(), true);
+        x.goal(1, 2, false);
+        Check.due("included() but for some", x.included(), false);
     }
 
     private static void leastWhereThereIsNone() {

@@ -34,6 +34,7 @@ public final class ReferenceTests {
             termsToldOneByOne(seed);
         }
         largeMachines();
+        everyCoupleOfSets();
         Check.end();
     }
 
@@ -244,5 +245,34 @@ public final class ReferenceTests {
             }
             run.compareNodes();
         }
+    }
+
+    /**
+     * Machines where some term reaches each set of states in machine 0 with each one in machine 1, none and all among
+     * them: 5 joins the sets of two children, 3 turns those of machine 0 round, and 4 those of machine 1.
+     */
+    private static void everyCoupleOfSets() {
+        Run run = new Run("every couple of sets");
+        for (int machine = 0; machine < 2; machine++) {
+            for (int i = 0; i < 16; i++) {
+                run.call("rule", machine, 5, i >> 2, i & 3, i >> 2);
+                run.call("rule", machine, 5, i >> 2, i & 3, i & 3);
+            }
+            for (int state = 0; state < 4; state++) {
+                run.call("rule", machine, 3 + machine, state, 0, (state + 1) % 4);
+                run.call("rule", machine, 4 - machine, state, 0, state);
+            }
+            run.call("rule", machine, 0, 0, 0, 0);
+            run.call("rule", machine, 1 + machine, 0, 0, 0);
+        }
+        Random random = new Random(1);
+        for (int i = 0; i < 100; i++) {
+            run.call("goal", random.nextInt(2), random.nextInt(4), random.nextInt(2));
+            run.call("least", random.nextInt(16));
+            run.call("witness", 1 << random.nextInt(4));
+        }
+        run.call("terms", 8, 7);
+        run.call("included");
+        run.compareNodes();
     }
 }
