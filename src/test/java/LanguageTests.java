@@ -1,4 +1,5 @@
 import java.io.IOException;
+import java.lang.reflect.Array;
 import java.lang.reflect.Constructor;
 import java.lang.reflect.Field;
 import java.lang.reflect.Method;
@@ -6,12 +7,14 @@ import java.lang.reflect.Modifier;
 import java.nio.file.Files;
 import java.nio.file.Path;
 import java.util.Arrays;
+import java.util.Collections;
+import java.util.IdentityHashMap;
 import java.util.Set;
 import java.util.TreeSet;
 import java.util.regex.Matcher;
 import java.util.regex.Pattern;
 
-/** The public face, and those rules of LANGUAGE.md that can be seen from the class and its text. */
+/** The public face, the room that an object takes, and the rules that can be seen from the class and its text. */
 public final class LanguageTests {
     private static final Path SOURCE = Path.of("src/main/java/TreeMachines.java");
     private static final int MOST_METHOD_LINES = 60;
@@ -28,6 +31,7 @@ public final class LanguageTests {
         String code = withoutComments(Files.readString(SOURCE));
         words(code);
         methodLengths(code);
+        room();
         Check.end();
     }
 
@@ -128,5 +132,40 @@ public final class LanguageTests {
             }
         }
         Check.due("methods were looked at", seen > FACE.length, true);
+    }
+
+    /** A run may make an object with every call, and all of them share the room. */
+    private static void room() {
+        TreeMachines x = new TreeMachines();
+        Set<Object> seen = Collections.newSetFromMap(new IdentityHashMap<>());
+        long fields = fieldsOf(x, seen);
+        Check.due("512 times " + seen.size() + " objects fit", Run.MOST_CALLS * seen.size() <= 600_000, true);
+        Check.due("512 times " + fields + " fields fit", Run.MOST_CALLS * fields <= 7_300_000, true);
+    }
+
+    /** How many fields and elements an object has, with all that it holds and that was not seen before. */
+    private static long fieldsOf(Object holder, Set<Object> seen) {
+        if (holder == null || !seen.add(holder)) {
+            return 0;
+        }
+        if (holder.getClass().isArray()) {
+            return Array.getLength(holder);
+        }
+        long sum = 0;
+        for (Field field : holder.getClass().getDeclaredFields()) {
+            if (!Modifier.isStatic(field.getModifiers())) {
+                sum += 1 + (field.getType().isPrimitive() ? 0 : fieldsOf(valueOf(field, holder), seen));
+            }
+        }
+        return sum;
+    }
+
+    private static Object valueOf(Field field, Object holder) {
+        try {
+            field.setAccessible(true);
+            return field.get(holder);
+        } catch (IllegalAccessException e) {
+            throw new IllegalStateException(field + " can't be read", e);
+        }
     }
 }
